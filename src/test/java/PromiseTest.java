@@ -16,6 +16,7 @@ public final class PromiseTest {
         promise2Feed();
         promise3End();
         promise4Load();
+        promise4LoadOverAndOver();
         promise5Fault();
         promise5FaultOfNamesAndValues();
         promise5FaultOfTooMuch();
@@ -101,6 +102,9 @@ public final class PromiseTest {
         x.end(12);
         CHECK.dueThrow("end(13) of 12", ARGUMENT, () -> { x.end(13); return 0; });
         CHECK.due("what is left", x.load(0), 1);
+        Check.tape(x, "setx");
+        x.end(3);
+        CHECK.due("cut in a word", x.load(0), -4);
         x.feed(0, 0, 0, 0, 0);
         x.end(0);
         CHECK.due("feed behind an empty tape", x.feed(0, 0, 0, 0, 0), 20);
@@ -139,6 +143,47 @@ public final class PromiseTest {
         CHECK.dueThrow("no witness", INDEX, () -> x.witness(0));
     }
 
+    // What one load leaves, a fault's too, is not to be seen by those behind it.
+    private static void promise4LoadOverAndOver() {
+        PolicyJudge x = new PolicyJudge();
+        String deep = Check.times(20, "set s one {") + "permit with 4; duty deny 1;" + Check.times(20, "}");
+        for (int turn = 0; turn < 4; turn++) {
+            CHECK.due("roles", Check.load(x, 0, ROLES), 9);
+            for (int what = 0; what < 4; what++) {
+                CHECK.due("count " + what, x.count(0, what), new int[] { 2, 9, 11, 5 }[what]);
+            }
+            CHECK.due("bag", x.bag(0, 0, 5), 0);
+            CHECK.due("bag", x.bag(0, 1, 2), 0);
+            CHECK.dueThrow("not decided", INDEX, () -> x.decided(0, 0));
+            CHECK.due("decide", x.decide(0), 2);
+            CHECK.due("a fault", Check.load(x, 0, deep + "}"), -1 - deep.length());
+            CHECK.due("a fault deep inside", Check.load(x, 0, deep.substring(0, 220) + "?"), -1 - 220);
+            CHECK.due("the text of before", x.decided(0, 0), 2);
+            CHECK.due("deep", Check.load(x, 0, deep), 21);
+            CHECK.due("no attributes", x.count(0, 0), 0);
+            CHECK.due("no parts", x.count(0, 2), 0);
+            CHECK.due("duties", x.count(0, 3), 2);
+            CHECK.due("no expression", x.node(0, 8, 5), 0);
+            CHECK.due("no name", x.name(0, 1, 20, -1), 0);
+            loadSmall(x);
+        }
+        fine("set s one {" + Check.times(50, "set s one {}") + "}", 51);
+    }
+
+    // With it three texts take turns in the rows of two.
+    private static void loadSmall(PolicyJudge x) {
+        CHECK.due("small", Check.load(x, 0, "attr a 1; set s one { permit for a none; set t first {} deny x with 1; }"), 4);
+        int[] due = { 2, 3, -1, 3, 0, 0, 0, -1, 0, 0, 0, 1, 2, 2, 0, 0, 0, 0, 1, -1, 0, 0, 1, 0 };
+        for (int k = 0; k < due.length; k++) {
+            CHECK.due("node(0, " + k / 6 + ", " + k % 6 + ")", x.node(0, k / 6, k % 6), due[k]);
+        }
+        CHECK.due("no name", x.name(0, 1, 1, -1), 0);
+        CHECK.due("a name", x.name(0, 1, 3, -1), 1);
+        CHECK.due("decide", x.decide(0), 5);
+        String printed = "attr a 1;\nset s one {\n  permit for a none;\n  set t first {\n  }\n  deny x with 1;\n}\n";
+        CHECK.due("print", Check.printed(x, x.print(0)), printed);
+    }
+
     private static void fault(String text, int kind, int place) {
         PolicyJudge x = new PolicyJudge();
         CHECK.due("load of " + text, Check.load(x, 0, text), -1 - place);
@@ -159,6 +204,9 @@ public final class PromiseTest {
         CHECK.due("fault of the latest", x.fault(), 0);
 
         fault("", 2, 0);
+        fault("set" + Check.times(5994, " ") + "abc", 2, 6000);
+        fault(Check.times(6000, "{"), 2, 0);
+        fine("set s one{" + Check.times(5989, "\n") + "}", 1);
         fault(" \t\r\n", 2, 4);
         fault("_ ", 1, 0);
         fault("\u0000", 1, 0);
@@ -337,6 +385,7 @@ public final class PromiseTest {
         CHECK.due("no name", x.name(0, 1, 1, -1), 0);
         CHECK.due("length of the longest", x.name(0, 1, 2, -1), 12);
         CHECK.due("last of the longest", x.name(0, 1, 2, 11), 's');
+        fine("attr zZaA09_ 1; set azAZ_90 one { permit ZzZ for zZaA09_ none; }", 2);
         CHECK.dueThrow("no byte", INDEX, () -> x.name(0, 1, 1, 0));
         CHECK.dueThrow("byte too far", INDEX, () -> x.name(0, 0, 0, 4));
         CHECK.dueThrow("byte -2", INDEX, () -> x.name(0, 0, 0, -2));
@@ -520,6 +569,7 @@ public final class PromiseTest {
     private static void duties(String text, int... due) {
         PolicyJudge x = loaded(text);
         x.decide(0);
+        x.decide(0);
         CHECK.due("duties of " + text, x.duty(0, -1), due.length);
         for (int k = 0; k < Math.min(due.length, x.duty(0, -1)); k++) {
             CHECK.due("duty " + k + " of " + text, x.duty(0, k), due[k]);
@@ -549,6 +599,8 @@ public final class PromiseTest {
         duties("set s first { permit for false with 1; set t denies for error { deny with 1; } deny with 2; duty deny 4; }");
         duties("set s first { set t denies { deny with 1; deny with 2; permit with 3; } deny with 5; duty deny 4; }", 1, 2, 4);
         duties("set s denies { set t first { permit with 1; deny with 2; } set u one for error { permit with 7; } permit with 5; }", 1, 5);
+        duties(Check.times(20, "set s first { duty permit 1; ") + "permit with 2;" + Check.times(20, "}"),
+            2, 1, 1, 1, 1, 1, 1, 1, 1, 1, 1, 1, 1, 1, 1, 1, 1, 1, 1, 1, 1);
         StringBuilder hundred = new StringBuilder("set s permits { permit with 0");
         int[] due = new int[100];
         for (int i = 1; i < 100; i++) {
@@ -580,6 +632,7 @@ public final class PromiseTest {
         CHECK.due("fewer", both(a + end, "attr a 2 many;" + end).same(), -2);
         CHECK.due("more", both("attr a 2 many;" + end, a + end).same(), -2);
         CHECK.due("another name", both(a + end, "attr a 2 many; attr c 3;" + end).same(), -2);
+        CHECK.due("another name alone", both("attr a 2;" + end, "attr b 2;" + end).same(), -2);
         CHECK.due("another SIZE", both(a + end, "attr a 2 many; attr b 2;" + end).same(), -2);
         CHECK.due("another many", both(a + end, "attr a 2 many; attr b 3 many;" + end).same(), -2);
         CHECK.due("another must", both(a + end, "attr a 2 many; attr b 3 must;" + end).same(), -2);
@@ -611,6 +664,12 @@ public final class PromiseTest {
         CHECK.due("witness of reach", y.witness(0), 0);
         CHECK.due("alike", y.same(), 1);
         CHECK.dueThrow("no witness any more", INDEX, () -> y.witness(0));
+
+        PolicyJudge w = both("attr a 2; set s one { permit for a none or a has 1; }",
+            "attr a 2; set s first { deny for not a has 0; }");
+        w.reach(0, 0, 0);
+        CHECK.due("from the first request on", w.same(), 0);
+        CHECK.due("the first one", w.witness(0), 0);
 
         PolicyJudge z = both("attr a 2; set s one {}", "attr a 3; set s first {}");
         z.reach(0, 0, 0);
@@ -680,6 +739,10 @@ public final class PromiseTest {
         x.reach(0, 0, 2);
         CHECK.due("too many", x.reach(1, 0, 0), -3);
         CHECK.due("the witness stays", x.witness(0), 3);
+        PolicyJudge all = loaded("attr a 8 many; attr b 4 many; set s one { permit for a > 7 and b > 3; }");
+        CHECK.due("the last of 4096", all.reach(0, 0, 1), 1);
+        CHECK.due("its first", all.witness(0), 255);
+        CHECK.due("its second", all.witness(1), 15);
         PolicyJudge none = loaded("set s one { permit; }");
         CHECK.due("one request", none.reach(0, 0, 1), 1);
         CHECK.dueThrow("no attribute in it", INDEX, () -> none.witness(0));
