@@ -1,8 +1,8 @@
 /** For each promise of the document: ordinary inputs, the edges it names, and wrong inputs. */
 public final class PromiseTest {
-    private static final Class<IndexOutOfBoundsException> INDEX = IndexOutOfBoundsException.class;
-    private static final Class<IllegalArgumentException> ARGUMENT = IllegalArgumentException.class;
-    private static final Class<IllegalStateException> STATE = IllegalStateException.class;
+    private static final Class<IndexOutOfBoundsException> INDEX = Check.INDEX;
+    private static final Class<IllegalArgumentException> ARGUMENT = Check.ARGUMENT;
+    private static final Class<IllegalStateException> STATE = Check.STATE;
     private static final Check CHECK = new Check();
 
     private static final String ROLES = "attr role 3 many must; attr place 2;\n"
@@ -41,12 +41,6 @@ public final class PromiseTest {
         promise20Out();
         promise21Again();
         CHECK.finish("PromiseTest");
-    }
-
-    private static PolicyJudge loaded(String text) {
-        PolicyJudge x = new PolicyJudge();
-        CHECK.due("fault of " + text, Check.load(x, 0, text) < 0 ? x.fault() : 0, 0);
-        return x;
     }
 
     private static void promise1NewObject() {
@@ -167,7 +161,7 @@ public final class PromiseTest {
             CHECK.due("no name", x.name(0, 1, 20, -1), 0);
             loadSmall(x);
         }
-        fine("set s one {" + Check.times(50, "set s one {}") + "}", 51);
+        CHECK.fine("set s one {" + Check.times(50, "set s one {}") + "}", 51);
     }
 
     // With it three texts take turns in the rows of two.
@@ -184,18 +178,6 @@ public final class PromiseTest {
         CHECK.due("print", Check.printed(x, x.print(0)), printed);
     }
 
-    private static void fault(String text, int kind, int place) {
-        PolicyJudge x = new PolicyJudge();
-        CHECK.due("load of " + text, Check.load(x, 0, text), -1 - place);
-        CHECK.due("fault of " + text, x.fault(), kind);
-    }
-
-    private static void fine(String text, int nodes) {
-        PolicyJudge x = new PolicyJudge();
-        CHECK.due("load of " + text, Check.load(x, 0, text), nodes);
-        CHECK.due("fault of " + text, x.fault(), 0);
-    }
-
     private static void promise5Fault() {
         PolicyJudge x = new PolicyJudge();
         Check.load(x, 0, "set");
@@ -203,89 +185,89 @@ public final class PromiseTest {
         Check.load(x, 1, "set s one {}");
         CHECK.due("fault of the latest", x.fault(), 0);
 
-        fault("", 2, 0);
-        fault("set" + Check.times(5994, " ") + "abc", 2, 6000);
-        fault(Check.times(6000, "{"), 2, 0);
-        fine("set s one{" + Check.times(5989, "\n") + "}", 1);
-        fault(" \t\r\n", 2, 4);
-        fault("_ ", 1, 0);
-        fault("\u0000", 1, 0);
-        fault("\u000b", 1, 0);
-        fault("\u00e4", 1, 0);
-        fault("set s one {} set", 2, 13);
-        fault("set s one {} ?", 1, 13);
-        fault("set s one {};", 2, 12);
-        fault("Set s one {}", 2, 0);
-        fault("permit;", 2, 0);
-        fault("set s {}", 2, 6);
-        fault("set 12 one {}", 2, 4);
-        fault("set s one for {}", 2, 14);
-        fault("set s one for true or {}", 2, 22);
-        fault("set s one for true {", 2, 20);
-        fault("set s one for true with 1 {}", 2, 19);
-        fault("set s one { attr a 1; }", 2, 12);
-        fault("set s one { permit x for true with 1, 2 }", 2, 40);
-        fault("set s one { permit 1; }", 2, 19);
-        fault("set s one { permit permit; }", 2, 19);
-        fault("set s one { permit with 1 2; }", 2, 26);
-        fault("set s one { permit with 1000; }", 1, 24);
-        fault("set s one { permit with 0001; }", 1, 24);
-        fault("set s one { permit with 1_; }", 1, 24);
-        fault("set s one { permit with 1x; }", 1, 24);
-        fine("set s one { permit a_b_c_d_e_f_; }", 2);
-        fault("set s one { permit a_b_c_d_e_f_g; }", 1, 19);
-        fault("set abcdefghijklm ?", 1, 4);
-        fault("set s one { duty permit 1, 2; }", 2, 25);
-        fault("set s one { duty 1; }", 2, 17);
-        fault("set s one { permit for not or; }", 2, 27);
-        fault("set s one { permit for (true; }", 2, 28);
-        fault("set s one { permit for true); }", 2, 27);
-        fault("set s one { permit for (); }", 2, 24);
-        fault("set s one { permit for true and or true; }", 2, 32);
+        CHECK.fault("", 2, 0);
+        CHECK.fault("set" + Check.times(5994, " ") + "abc", 2, 6000);
+        CHECK.fault(Check.times(6000, "{"), 2, 0);
+        CHECK.fine("set s one{" + Check.times(5989, "\n") + "}", 1);
+        CHECK.fault(" \t\r\n", 2, 4);
+        CHECK.fault("_ ", 1, 0);
+        CHECK.fault("\u0000", 1, 0);
+        CHECK.fault("\u000b", 1, 0);
+        CHECK.fault("\u00e4", 1, 0);
+        CHECK.fault("set s one {} set", 2, 13);
+        CHECK.fault("set s one {} ?", 1, 13);
+        CHECK.fault("set s one {};", 2, 12);
+        CHECK.fault("Set s one {}", 2, 0);
+        CHECK.fault("permit;", 2, 0);
+        CHECK.fault("set s {}", 2, 6);
+        CHECK.fault("set 12 one {}", 2, 4);
+        CHECK.fault("set s one for {}", 2, 14);
+        CHECK.fault("set s one for true or {}", 2, 22);
+        CHECK.fault("set s one for true {", 2, 20);
+        CHECK.fault("set s one for true with 1 {}", 2, 19);
+        CHECK.fault("set s one { attr a 1; }", 2, 12);
+        CHECK.fault("set s one { permit x for true with 1, 2 }", 2, 40);
+        CHECK.fault("set s one { permit 1; }", 2, 19);
+        CHECK.fault("set s one { permit permit; }", 2, 19);
+        CHECK.fault("set s one { permit with 1 2; }", 2, 26);
+        CHECK.fault("set s one { permit with 1000; }", 1, 24);
+        CHECK.fault("set s one { permit with 0001; }", 1, 24);
+        CHECK.fault("set s one { permit with 1_; }", 1, 24);
+        CHECK.fault("set s one { permit with 1x; }", 1, 24);
+        CHECK.fine("set s one { permit a_b_c_d_e_f_; }", 2);
+        CHECK.fault("set s one { permit a_b_c_d_e_f_g; }", 1, 19);
+        CHECK.fault("set abcdefghijklm ?", 1, 4);
+        CHECK.fault("set s one { duty permit 1, 2; }", 2, 25);
+        CHECK.fault("set s one { duty 1; }", 2, 17);
+        CHECK.fault("set s one { permit for not or; }", 2, 27);
+        CHECK.fault("set s one { permit for (true; }", 2, 28);
+        CHECK.fault("set s one { permit for true); }", 2, 27);
+        CHECK.fault("set s one { permit for (); }", 2, 24);
+        CHECK.fault("set s one { permit for true and or true; }", 2, 32);
         for (String word : ("attr many must set for permit deny with duty or and not true false error has in only meets"
             + " is none denies permits first one elsedeny elsepermit").split(" ")) {
-            fault("set " + word + " one {}", 2, 4);
-            fault("attr " + word + " 1; set s one {}", 2, 5);
-            fine("set " + word + "x one {}", 1);
+            CHECK.fault("set " + word + " one {}", 2, 4);
+            CHECK.fault("attr " + word + " 1; set s one {}", 2, 5);
+            CHECK.fine("set " + word + "x one {}", 1);
         }
     }
 
     private static void promise5FaultOfNamesAndValues() {
-        fault("attr a 1; attr a 9; set s one {}", 3, 15);
-        fine("attr a 1; attr A 1; set s one {}", 1);
-        fault("attr a 000; set s one {}", 4, 7);
-        fine("attr a 008; set s one {}", 1);
-        fault("attr a 10; set s one {}", 4, 7);
-        fault("attr a 1 must many; set s one {}", 2, 14);
-        fault("attr a 1 many many; set s one {}", 2, 14);
-        fault("attr a 1, set s one {}", 2, 8);
-        fault("attr a many; set s one {}", 2, 7);
-        fault("set s one { permit for s none; }", 3, 23);
-        fault("set s one { permit for s; }", 3, 23);
+        CHECK.fault("attr a 1; attr a 9; set s one {}", 3, 15);
+        CHECK.fine("attr a 1; attr A 1; set s one {}", 1);
+        CHECK.fault("attr a 000; set s one {}", 4, 7);
+        CHECK.fine("attr a 008; set s one {}", 1);
+        CHECK.fault("attr a 10; set s one {}", 4, 7);
+        CHECK.fault("attr a 1 must many; set s one {}", 2, 14);
+        CHECK.fault("attr a 1 many many; set s one {}", 2, 14);
+        CHECK.fault("attr a 1, set s one {}", 2, 8);
+        CHECK.fault("attr a many; set s one {}", 2, 7);
+        CHECK.fault("set s one { permit for s none; }", 3, 23);
+        CHECK.fault("set s one { permit for s; }", 3, 23);
         String start = "attr a 3; attr bb 1; set s one for ";
         int at = start.length();
-        fault(start + "a has 3 {}", 4, at + 6);
-        fault(start + "a is 3 {}", 4, at + 5);
-        fault(start + "bb is 1 {}", 4, at + 6);
-        fine(start + "a < 999 {}", 1);
-        fine(start + "a = 3 and a > 8 {}", 1);
-        fine(start + "a in {2, 1, 0} {}", 1);
-        fault(start + "a in {2, 1, 02} {}", 4, at + 12);
-        fault(start + "a only {3} {}", 4, at + 8);
-        fault(start + "a only {0, 1, 2, 3} {}", 4, at + 17);
-        fault(start + "a only {0,} {}", 2, at + 10);
-        fault(start + "a only 0 {}", 2, at + 7);
-        fault(start + "a only {0 {}", 2, at + 10);
-        fault(start + "a meets b {}", 3, at + 8);
-        fault(start + "a meets 1 {}", 2, at + 8);
-        fine(start + "a meets bb {}", 1);
-        fault(start + "a none 1 {}", 2, at + 7);
-        fault(start + "a or bb none {}", 2, at + 2);
-        fault(start + "a is bb {}", 2, at + 5);
-        fault(start + "a has {1} {}", 2, at + 6);
-        fault(start + "a <1x {}", 1, at + 3);
-        fault(start + "a<1and bb>0 {}", 1, at + 2);
-        fine(start + "a<1 and bb>0{}", 1);
+        CHECK.fault(start + "a has 3 {}", 4, at + 6);
+        CHECK.fault(start + "a is 3 {}", 4, at + 5);
+        CHECK.fault(start + "bb is 1 {}", 4, at + 6);
+        CHECK.fine(start + "a < 999 {}", 1);
+        CHECK.fine(start + "a = 3 and a > 8 {}", 1);
+        CHECK.fine(start + "a in {2, 1, 0} {}", 1);
+        CHECK.fault(start + "a in {2, 1, 02} {}", 4, at + 12);
+        CHECK.fault(start + "a only {3} {}", 4, at + 8);
+        CHECK.fault(start + "a only {0, 1, 2, 3} {}", 4, at + 17);
+        CHECK.fault(start + "a only {0,} {}", 2, at + 10);
+        CHECK.fault(start + "a only 0 {}", 2, at + 7);
+        CHECK.fault(start + "a only {0 {}", 2, at + 10);
+        CHECK.fault(start + "a meets b {}", 3, at + 8);
+        CHECK.fault(start + "a meets 1 {}", 2, at + 8);
+        CHECK.fine(start + "a meets bb {}", 1);
+        CHECK.fault(start + "a none 1 {}", 2, at + 7);
+        CHECK.fault(start + "a or bb none {}", 2, at + 2);
+        CHECK.fault(start + "a is bb {}", 2, at + 5);
+        CHECK.fault(start + "a has {1} {}", 2, at + 6);
+        CHECK.fault(start + "a <1x {}", 1, at + 3);
+        CHECK.fault(start + "a<1and bb>0 {}", 1, at + 2);
+        CHECK.fine(start + "a<1 and bb>0{}", 1);
     }
 
     private static void promise5FaultOfTooMuch() {
@@ -293,50 +275,50 @@ public final class PromiseTest {
         for (int i = 0; i < 8; i++) {
             attributes.append("attr a").append(i).append(" 1; ");
         }
-        fine(attributes + "set s one {}", 1);
-        fault(attributes + "attr a0 9", 5, attributes.length());
+        CHECK.fine(attributes + "set s one {}", 1);
+        CHECK.fault(attributes + "attr a0 9", 5, attributes.length());
 
         String nodes = "set s one {" + Check.times(99, "deny;");
-        fine(nodes + "}", 100);
-        fault(nodes + " permit ?", 5, nodes.length() + 1);
-        fault(nodes + " set ?", 5, nodes.length() + 1);
-        fine(nodes + " duty permit 1;}", 100);
+        CHECK.fine(nodes + "}", 100);
+        CHECK.fault(nodes + " permit ?", 5, nodes.length() + 1);
+        CHECK.fault(nodes + " set ?", 5, nodes.length() + 1);
+        CHECK.fine(nodes + " duty permit 1;}", 100);
 
         String parts = "attr a 1; set s one { permit for true" + Check.times(398, " or true");
-        fine(parts + "; }", 2);
-        fault(parts + " or true; }", 5, parts.length() + 4);
-        fault(parts + " and true; }", 5, parts.length() + 1);
-        fault(parts + "; permit for a ?", 5, parts.length() + 13);
-        fault(parts + "; permit for b ?", 3, parts.length() + 13);
-        fault(parts + "; permit for not ?", 5, parts.length() + 13);
-        fault(parts + "; permit for (((true", 5, parts.length() + 16);
-        fault(parts + "; permit for ; }", 2, parts.length() + 13);
+        CHECK.fine(parts + "; }", 2);
+        CHECK.fault(parts + " or true; }", 5, parts.length() + 4);
+        CHECK.fault(parts + " and true; }", 5, parts.length() + 1);
+        CHECK.fault(parts + "; permit for a ?", 5, parts.length() + 13);
+        CHECK.fault(parts + "; permit for b ?", 3, parts.length() + 13);
+        CHECK.fault(parts + "; permit for not ?", 5, parts.length() + 13);
+        CHECK.fault(parts + "; permit for (((true", 5, parts.length() + 16);
+        CHECK.fault(parts + "; permit for ; }", 2, parts.length() + 13);
 
         String duties = "set s one { duty deny 1; permit with 1" + Check.times(98, ",1");
-        fine(duties + "; }", 2);
-        fault(duties + ", 1; }", 5, duties.length() + 2);
-        fault(duties + ", x; }", 2, duties.length() + 2);
-        fault(duties + "; duty permit 5 }", 5, duties.length() + 14);
+        CHECK.fine(duties + "; }", 2);
+        CHECK.fault(duties + ", 1; }", 5, duties.length() + 2);
+        CHECK.fault(duties + ", x; }", 2, duties.length() + 2);
+        CHECK.fault(duties + "; duty permit 5 }", 5, duties.length() + 14);
     }
 
     private static void promise5FaultOfDepth() {
         String sets = Check.times(20, "set s one {");
-        fine(sets + Check.times(20, "}"), 20);
-        fault(sets + "set s one {", 5, sets.length() + 10);
-        fault(sets + "set s one for (", 5, sets.length() + 14);
-        fault(sets + "permit for not true;", 5, sets.length() + 11);
-        fine(sets + "permit for true;" + Check.times(20, "}"), 21);
+        CHECK.fine(sets + Check.times(20, "}"), 20);
+        CHECK.fault(sets + "set s one {", 5, sets.length() + 10);
+        CHECK.fault(sets + "set s one for (", 5, sets.length() + 14);
+        CHECK.fault(sets + "permit for not true;", 5, sets.length() + 11);
+        CHECK.fine(sets + "permit for true;" + Check.times(20, "}"), 21);
 
         String start = "attr a 8 many; set s one for ";
         String open = Check.times(10, "not (");
-        fine(start + open + "a in {0}" + Check.times(10, ")") + "{}", 1);
-        fault(start + open + "(a in {0}" + Check.times(11, ")") + "{}", 5, start.length() + open.length());
-        fault(start + open + "not a in {0}" + Check.times(10, ")") + "{}", 5, start.length() + open.length());
-        fine(start + Check.times(19, "(") + "not true and (true) or not false" + Check.times(19, ")") + "{}", 1);
+        CHECK.fine(start + open + "a in {0}" + Check.times(10, ")") + "{}", 1);
+        CHECK.fault(start + open + "(a in {0}" + Check.times(11, ")") + "{}", 5, start.length() + open.length());
+        CHECK.fault(start + open + "not a in {0}" + Check.times(10, ")") + "{}", 5, start.length() + open.length());
+        CHECK.fine(start + Check.times(19, "(") + "not true and (true) or not false" + Check.times(19, ")") + "{}", 1);
     }
 
     private static void promise6Count() {
-        PolicyJudge x = loaded(ROLES);
+        PolicyJudge x = CHECK.loaded(ROLES);
         CHECK.due("attributes", x.count(0, 0), 2);
         CHECK.due("nodes", x.count(0, 1), 9);
         CHECK.due("parts", x.count(0, 2), 11);
@@ -346,12 +328,12 @@ public final class PromiseTest {
         CHECK.dueThrow("count(-1, 0)", INDEX, () -> x.count(-1, 0));
         CHECK.dueThrow("count(0, 4)", INDEX, () -> x.count(0, 4));
         CHECK.dueThrow("count(1, -1)", INDEX, () -> x.count(1, -1));
-        PolicyJudge y = loaded("set s one for ((true)) or ((true or true) or not (false and true and error)) {}");
+        PolicyJudge y = CHECK.loaded("set s one for ((true)) or ((true or true) or not (false and true and error)) {}");
         CHECK.due("joints are one part each", y.count(0, 2), 11);
     }
 
     private static void promise7Node() {
-        PolicyJudge x = loaded(ROLES);
+        PolicyJudge x = CHECK.loaded(ROLES);
         int[][] due = {
             { 2, 0, -1, 4, 2, 0 }, { 0, -1, 0, 0, 2, 1 }, { 1, -1, 0, 0, 0, 1 }, { 2, 2, 0, 2, 0, 1 },
             { 1, -1, 3, 0, 1, 1 }, { 0, -1, 3, 0, 0, 0 }, { 2, 3, 0, 2, 0, 0 }, { 0, -1, 6, 0, 0, 1 },
@@ -371,12 +353,12 @@ public final class PromiseTest {
         CHECK.dueThrow("text 2", INDEX, () -> x.node(2, 0, 0));
         String[] ways = { "denies", "permits", "first", "one", "elsedeny", "elsepermit" };
         for (int way = 0; way < ways.length; way++) {
-            CHECK.due(ways[way], loaded("set s " + ways[way] + " {}").node(0, 0, 1), way);
+            CHECK.due(ways[way], CHECK.loaded("set s " + ways[way] + " {}").node(0, 0, 1), way);
         }
     }
 
     private static void promise8Name() {
-        PolicyJudge x = loaded("attr role 3; attr A_9 1; set top one { permit; deny twelve_chars; }");
+        PolicyJudge x = CHECK.loaded("attr role 3; attr A_9 1; set top one { permit; deny twelve_chars; }");
         CHECK.due("length", x.name(0, 0, 0, -1), 4);
         CHECK.due("byte", x.name(0, 0, 0, 3), 'e');
         CHECK.due("byte", x.name(0, 0, 1, 1), '_');
@@ -385,7 +367,7 @@ public final class PromiseTest {
         CHECK.due("no name", x.name(0, 1, 1, -1), 0);
         CHECK.due("length of the longest", x.name(0, 1, 2, -1), 12);
         CHECK.due("last of the longest", x.name(0, 1, 2, 11), 's');
-        fine("attr zZaA09_ 1; set azAZ_90 one { permit ZzZ for zZaA09_ none; }", 2);
+        CHECK.fine("attr zZaA09_ 1; set azAZ_90 one { permit ZzZ for zZaA09_ none; }", 2);
         CHECK.dueThrow("no byte", INDEX, () -> x.name(0, 1, 1, 0));
         CHECK.dueThrow("byte too far", INDEX, () -> x.name(0, 0, 0, 4));
         CHECK.dueThrow("byte -2", INDEX, () -> x.name(0, 0, 0, -2));
@@ -399,7 +381,7 @@ public final class PromiseTest {
     }
 
     private static void promise9Attribute() {
-        PolicyJudge x = loaded("attr a 3 many; attr b 8 must; attr c 1 many must; attr d 2; set s one {}");
+        PolicyJudge x = CHECK.loaded("attr a 3 many; attr b 8 must; attr c 1 many must; attr d 2; set s one {}");
         int[][] due = { { 3, 1, 0 }, { 8, 0, 1 }, { 1, 1, 1 }, { 2, 0, 0 } };
         for (int i = 0; i < 4; i++) {
             for (int what = 0; what < 3; what++) {
@@ -418,7 +400,7 @@ public final class PromiseTest {
     }
 
     private static void promise10Bag() {
-        PolicyJudge x = loaded("attr a 3 many; attr b 3 must; attr c 8 many; set s one {}");
+        PolicyJudge x = CHECK.loaded("attr a 3 many; attr b 3 must; attr c 8 many; set s one {}");
         CHECK.due("before", x.bag(0, 0, 7), 0);
         CHECK.due("before", x.bag(0, 0, 5), 7);
         CHECK.due("now", x.attribute(0, 0, 3), 5);
@@ -439,7 +421,7 @@ public final class PromiseTest {
     }
 
     private static void promise11Decide() {
-        PolicyJudge x = loaded("attr a 2 must; set s denies { permit for a has 0; deny for a has 1; }");
+        PolicyJudge x = CHECK.loaded("attr a 2 must; set s denies { permit for a has 0; deny for a has 1; }");
         CHECK.due("an error", x.decide(0), 5);
         x.bag(0, 0, 1);
         CHECK.due("a permit", x.decide(0), 1);
@@ -462,33 +444,33 @@ public final class PromiseTest {
             for (int j = 0; j < 6; j++) {
                 String in = " { " + child[i] + " " + child[j] + " }";
                 String two = i + "" + j;
-                CHECK.due("denies " + two, loaded("set s denies" + in).decide(0), denies[i].charAt(j) - '0');
-                CHECK.due("permits " + two, loaded("set s permits" + in).decide(0), permits[i].charAt(j) - '0');
-                CHECK.due("first " + two, loaded("set s first" + in).decide(0), i == 0 ? j : i);
+                CHECK.due("denies " + two, CHECK.loaded("set s denies" + in).decide(0), denies[i].charAt(j) - '0');
+                CHECK.due("permits " + two, CHECK.loaded("set s permits" + in).decide(0), permits[i].charAt(j) - '0');
+                CHECK.due("first " + two, CHECK.loaded("set s first" + in).decide(0), i == 0 ? j : i);
                 boolean error = i == 3 || i == 4 || j == 3 || j == 4;
                 int one = error || i != 0 && j != 0 ? 5 : i + j;
-                CHECK.due("one " + two, loaded("set s one" + in).decide(0), one);
-                CHECK.due("elsedeny " + two, loaded("set s elsedeny" + in).decide(0), i == 1 || j == 1 ? 1 : 2);
-                CHECK.due("elsepermit " + two, loaded("set s elsepermit" + in).decide(0), i == 2 || j == 2 ? 2 : 1);
+                CHECK.due("one " + two, CHECK.loaded("set s one" + in).decide(0), one);
+                CHECK.due("elsedeny " + two, CHECK.loaded("set s elsedeny" + in).decide(0), i == 1 || j == 1 ? 1 : 2);
+                CHECK.due("elsepermit " + two, CHECK.loaded("set s elsepermit" + in).decide(0), i == 2 || j == 2 ? 2 : 1);
             }
             int weaker = i == 1 || i == 2 ? i + 2 : i;
-            CHECK.due("error set " + i, loaded("set s first for error { " + child[i] + " }").decide(0), weaker);
-            CHECK.due("false set " + i, loaded("set s first for false { " + child[i] + " }").decide(0), 0);
+            CHECK.due("error set " + i, CHECK.loaded("set s first for error { " + child[i] + " }").decide(0), weaker);
+            CHECK.due("false set " + i, CHECK.loaded("set s first for false { " + child[i] + " }").decide(0), 0);
         }
         String[] ways = { "denies", "permits", "first", "one", "elsedeny", "elsepermit" };
         for (int way = 0; way < 6; way++) {
             int empty = way == 4 ? 2 : way == 5 ? 1 : 0;
-            CHECK.due("empty " + ways[way], loaded("set s " + ways[way] + " {}").decide(0), empty);
+            CHECK.due("empty " + ways[way], CHECK.loaded("set s " + ways[way] + " {}").decide(0), empty);
             int weak = way == 4 ? 4 : way == 5 ? 3 : 0;
-            CHECK.due("empty error " + ways[way], loaded("set s " + ways[way] + " for error {}").decide(0), weak);
+            CHECK.due("empty error " + ways[way], CHECK.loaded("set s " + ways[way] + " for error {}").decide(0), weak);
         }
-        CHECK.due("BOTH? before DENY?", loaded("set s denies { deny for error; set b one for true { permit; deny; } }").decide(0), 5);
-        CHECK.due("one: a child that is TRUE and NEITHER", loaded("set s one { set t one { } }").decide(0), 0);
-        CHECK.due("one: an error behind two", loaded("set s one { deny for false; set t first { permit for error; } }").decide(0), 3);
+        CHECK.due("BOTH? before DENY?", CHECK.loaded("set s denies { deny for error; set b one for true { permit; deny; } }").decide(0), 5);
+        CHECK.due("one: a child that is TRUE and NEITHER", CHECK.loaded("set s one { set t one { } }").decide(0), 0);
+        CHECK.due("one: an error behind two", CHECK.loaded("set s one { deny for false; set t first { permit for error; } }").decide(0), 3);
     }
 
     private static void promise12Decided() {
-        PolicyJudge x = loaded("attr a 2; set s first for a has 1 { permit for a has 1; deny; set t elsedeny for a none { } }");
+        PolicyJudge x = CHECK.loaded("attr a 2; set s first for a has 1 { permit for a has 1; deny; set t elsedeny for a none { } }");
         CHECK.dueThrow("nothing decided", INDEX, () -> x.decided(0, 0));
         x.decide(0);
         int[] due = { 0, 0, 2, 2 };
@@ -507,7 +489,7 @@ public final class PromiseTest {
     }
 
     private static void promise13Truth() {
-        PolicyJudge x = loaded("attr a 2; set s first { permit for false; deny for true; permit for error; permit; set t one for a is 0 {} }");
+        PolicyJudge x = CHECK.loaded("attr a 2; set s first { permit for false; deny for true; permit for error; permit; set t one for a is 0 {} }");
         CHECK.dueThrow("nothing decided", INDEX, () -> x.truth(0, 0));
         x.decide(0);
         int[] due = { 1, 0, 1, 2, 1, 2 };
@@ -537,7 +519,7 @@ public final class PromiseTest {
     }
 
     private static int truthOf(String expression) {
-        PolicyJudge x = loaded("set s one for " + expression + " {}");
+        PolicyJudge x = CHECK.loaded("set s one for " + expression + " {}");
         x.decide(0);
         return x.truth(0, 0);
     }
@@ -554,7 +536,7 @@ public final class PromiseTest {
         };
         for (String[] test : tests) {
             for (int must = 0; must < 2; must++) {
-                PolicyJudge x = loaded("attr a 3 many" + (must == 1 ? " must" : "")
+                PolicyJudge x = CHECK.loaded("attr a 3 many" + (must == 1 ? " must" : "")
                     + "; attr b 2; attr c 1 must; set s one for " + test[0] + " {}");
                 x.bag(0, 1, 2);
                 for (int mask = 0; mask < 4; mask++) {
@@ -567,7 +549,7 @@ public final class PromiseTest {
     }
 
     private static void duties(String text, int... due) {
-        PolicyJudge x = loaded(text);
+        PolicyJudge x = CHECK.loaded(text);
         x.decide(0);
         x.decide(0);
         CHECK.due("duties of " + text, x.duty(0, -1), due.length);
@@ -579,7 +561,7 @@ public final class PromiseTest {
     }
 
     private static void promise14Duty() {
-        PolicyJudge x = loaded("set s one { permit with 5; }");
+        PolicyJudge x = CHECK.loaded("set s one { permit with 5; }");
         CHECK.dueThrow("nothing decided", INDEX, () -> x.duty(0, -1));
         CHECK.dueThrow("no text", INDEX, () -> x.duty(1, -1));
         CHECK.dueThrow("text 2", INDEX, () -> x.duty(2, -1));
@@ -610,45 +592,39 @@ public final class PromiseTest {
         duties(hundred + "; }", due);
     }
 
-    private static PolicyJudge both(String first, String second) {
-        PolicyJudge x = loaded(first);
-        CHECK.due("load of " + second, Check.load(x, 1, second) > 0 ? 1 : 0, 1);
-        return x;
-    }
-
     private static void promise15Same() {
-        PolicyJudge alone = loaded("set s one {}");
+        PolicyJudge alone = CHECK.loaded("set s one {}");
         CHECK.dueThrow("text 1 is not there", STATE, alone::same);
         PolicyJudge other = new PolicyJudge();
         Check.load(other, 1, "set s one {}");
         CHECK.dueThrow("text 0 is not there", STATE, other::same);
 
-        CHECK.due("no attributes", both("set s one {}", "set t first { permit for false; }").same(), 1);
-        CHECK.due("no attributes", both("set s one {}", "set t first { permit; }").same(), 0);
+        CHECK.due("no attributes", CHECK.both("set s one {}", "set t first { permit for false; }").same(), 1);
+        CHECK.due("no attributes", CHECK.both("set s one {}", "set t first { permit; }").same(), 0);
         String a = "attr a 2 many; attr b 3; ";
-        CHECK.due("alike", both(a + "set s one { permit for a has 0 and b has 1; }",
+        CHECK.due("alike", CHECK.both(a + "set s one { permit for a has 0 and b has 1; }",
             "attr b 3; attr a 2 many; set s first for b has 1 { permit for a has 0; }").same(), 1);
         String end = "set s one {}";
-        CHECK.due("fewer", both(a + end, "attr a 2 many;" + end).same(), -2);
-        CHECK.due("more", both("attr a 2 many;" + end, a + end).same(), -2);
-        CHECK.due("another name", both(a + end, "attr a 2 many; attr c 3;" + end).same(), -2);
-        CHECK.due("another name alone", both("attr a 2;" + end, "attr b 2;" + end).same(), -2);
-        CHECK.due("another SIZE", both(a + end, "attr a 2 many; attr b 2;" + end).same(), -2);
-        CHECK.due("another many", both(a + end, "attr a 2 many; attr b 3 many;" + end).same(), -2);
-        CHECK.due("another must", both(a + end, "attr a 2 many; attr b 3 must;" + end).same(), -2);
+        CHECK.due("fewer", CHECK.both(a + end, "attr a 2 many;" + end).same(), -2);
+        CHECK.due("more", CHECK.both("attr a 2 many;" + end, a + end).same(), -2);
+        CHECK.due("another name", CHECK.both(a + end, "attr a 2 many; attr c 3;" + end).same(), -2);
+        CHECK.due("another name alone", CHECK.both("attr a 2;" + end, "attr b 2;" + end).same(), -2);
+        CHECK.due("another SIZE", CHECK.both(a + end, "attr a 2 many; attr b 2;" + end).same(), -2);
+        CHECK.due("another many", CHECK.both(a + end, "attr a 2 many; attr b 3 many;" + end).same(), -2);
+        CHECK.due("another must", CHECK.both(a + end, "attr a 2 many; attr b 3 must;" + end).same(), -2);
 
         String most = "attr a 8 many; attr b 4 many; ";
-        CHECK.due("4096", both(most + end, most + end).same(), 1);
+        CHECK.due("4096", CHECK.both(most + end, most + end).same(), 1);
         String more = "attr a 8 many; attr b 3 many; attr c 1; attr d 2; ";
-        CHECK.due("6144", both(more + end, more + end).same(), -3);
+        CHECK.due("6144", CHECK.both(more + end, more + end).same(), -3);
         String huge = "attr a 8 many; attr b 8 many; attr c 8 many; attr d 8 many; attr e 8 many; attr f 8 many; attr g 8 many; attr h 8 many; ";
-        CHECK.due("2 to the 64", both(huge + end, huge + end).same(), -3);
-        CHECK.due("misfits before too many", both(huge + end, more + end).same(), -2);
+        CHECK.due("2 to the 64", CHECK.both(huge + end, huge + end).same(), -3);
+        CHECK.due("misfits before too many", CHECK.both(huge + end, more + end).same(), -2);
         sameKeepsAndForgets();
     }
 
     private static void sameKeepsAndForgets() {
-        PolicyJudge x = both("attr a 2; set s one { permit for a has 1; }", "attr a 2; set s one { permit for a is 1; }");
+        PolicyJudge x = CHECK.both("attr a 2; set s one { permit for a has 1; }", "attr a 2; set s one { permit for a is 1; }");
         x.bag(0, 0, 2);
         x.bag(1, 0, 1);
         x.decide(0);
@@ -659,26 +635,26 @@ public final class PromiseTest {
         CHECK.due("decided", x.decided(0, 1), 1);
         CHECK.dueThrow("text 1 was not decided", INDEX, () -> x.decided(1, 0));
 
-        PolicyJudge y = both("attr a 2; set s one {}", "attr a 2; set s first {}");
+        PolicyJudge y = CHECK.both("attr a 2; set s one {}", "attr a 2; set s first {}");
         y.reach(0, 0, 0);
         CHECK.due("witness of reach", y.witness(0), 0);
         CHECK.due("alike", y.same(), 1);
         CHECK.dueThrow("no witness any more", INDEX, () -> y.witness(0));
 
-        PolicyJudge w = both("attr a 2; set s one { permit for a none or a has 1; }",
+        PolicyJudge w = CHECK.both("attr a 2; set s one { permit for a none or a has 1; }",
             "attr a 2; set s first { deny for not a has 0; }");
         w.reach(0, 0, 0);
         CHECK.due("from the first request on", w.same(), 0);
         CHECK.due("the first one", w.witness(0), 0);
 
-        PolicyJudge z = both("attr a 2; set s one {}", "attr a 3; set s first {}");
+        PolicyJudge z = CHECK.both("attr a 2; set s one {}", "attr a 3; set s first {}");
         z.reach(0, 0, 0);
         CHECK.due("misfit", z.same(), -2);
         CHECK.due("witness stays", z.witness(0), 0);
     }
 
     private static void promise16Differ() {
-        PolicyJudge x = both("attr a 3; attr b 2 many; set s first { permit for a is 1; deny for b has 0; }",
+        PolicyJudge x = CHECK.both("attr a 3; attr b 2 many; set s first { permit for a is 1; deny for b has 0; }",
             "attr b 2 many; attr a 3; set s first { permit for a has 1; deny for b has 0; }");
         CHECK.dueThrow("not compared", STATE, () -> x.differ(0, 0));
         CHECK.dueThrow("no such decision, not compared", INDEX, () -> x.differ(6, 0));
@@ -709,7 +685,7 @@ public final class PromiseTest {
 
     private static void promise17Reach() {
         String text = "attr a 3 many; attr b 2 must; set s first for a > 1 { deny for b has 1; permit for a has 2; }";
-        PolicyJudge x = loaded(text);
+        PolicyJudge x = CHECK.loaded(text);
         CHECK.due("a deny", x.reach(0, 0, 2), 1);
         CHECK.due("its first", x.witness(0), 3);
         CHECK.due("its second", x.witness(1), 2);
@@ -739,17 +715,17 @@ public final class PromiseTest {
         x.reach(0, 0, 2);
         CHECK.due("too many", x.reach(1, 0, 0), -3);
         CHECK.due("the witness stays", x.witness(0), 3);
-        PolicyJudge all = loaded("attr a 8 many; attr b 4 many; set s one { permit for a > 7 and b > 3; }");
+        PolicyJudge all = CHECK.loaded("attr a 8 many; attr b 4 many; set s one { permit for a > 7 and b > 3; }");
         CHECK.due("the last of 4096", all.reach(0, 0, 1), 1);
         CHECK.due("its first", all.witness(0), 255);
         CHECK.due("its second", all.witness(1), 15);
-        PolicyJudge none = loaded("set s one { permit; }");
+        PolicyJudge none = CHECK.loaded("set s one { permit; }");
         CHECK.due("one request", none.reach(0, 0, 1), 1);
         CHECK.dueThrow("no attribute in it", INDEX, () -> none.witness(0));
     }
 
     private static void promise18Witness() {
-        PolicyJudge x = both("attr a 2; attr b 4; set s one { deny for b has 2 and a has 1; }",
+        PolicyJudge x = CHECK.both("attr a 2; attr b 4; set s one { deny for b has 2 and a has 1; }",
             "attr b 4; attr a 2; set s one {}");
         CHECK.dueThrow("none yet", INDEX, () -> x.witness(0));
         x.same();
@@ -770,7 +746,7 @@ public final class PromiseTest {
     }
 
     private static void printed(String text, String due) {
-        PolicyJudge x = loaded(text);
+        PolicyJudge x = CHECK.loaded(text);
         int length = x.print(0);
         CHECK.due("length printed of " + text, length, due.length());
         CHECK.due("printed of " + text, Check.printed(x, length), due);
@@ -794,7 +770,7 @@ public final class PromiseTest {
             + "  set v first {\n  }\n  deny;\n}\n");
         printed("attr a 8; set s denies for a in {7,0,3} or a only{1}and a=1 { permit n with 1; }",
             "attr a 8;\nset s denies for a in {0, 3, 7} or a only {1} and a = 1 {\n  permit n with 1;\n}\n");
-        PolicyJudge x = loaded("set s one {}");
+        PolicyJudge x = CHECK.loaded("set s one {}");
         CHECK.dueThrow("no text", STATE, () -> x.print(1));
         CHECK.dueThrow("text 2", INDEX, () -> x.print(2));
         CHECK.dueThrow("text -1", INDEX, () -> x.print(-1));
@@ -820,7 +796,7 @@ public final class PromiseTest {
     }
 
     private static void promise20Out() {
-        PolicyJudge x = loaded("set s one {}");
+        PolicyJudge x = CHECK.loaded("set s one {}");
         CHECK.dueThrow("nothing printed", INDEX, () -> x.out(0));
         CHECK.due("length", x.print(0), 14);
         CHECK.due("first", x.out(0), 's');
@@ -835,7 +811,7 @@ public final class PromiseTest {
     }
 
     private static void promise21Again() {
-        PolicyJudge x = loaded("attr a 1; set s one{permit;}");
+        PolicyJudge x = CHECK.loaded("attr a 1; set s one{permit;}");
         Check.tape(x, "something else");
         CHECK.due("nothing printed", x.again(), 0);
         CHECK.due("in place of what was there", x.feed(0, 0, 0, 0, 0), 20);
@@ -848,7 +824,7 @@ public final class PromiseTest {
 
         // Twenty sets, duties and rules deep in them: 40 blanks before each line.
         String deep = Check.times(20, "set s one{") + Check.times(80, "deny;") + Check.times(100, "duty deny 1;") + Check.times(20, "}");
-        PolicyJudge y = loaded(deep);
+        PolicyJudge y = CHECK.loaded(deep);
         int due = 80 * (40 + 6) + 100 * (40 + 13);
         for (int i = 0; i < 20; i++) {
             due += 2 * 2 * i + 12 + 2;
@@ -882,7 +858,7 @@ public final class PromiseTest {
                 gap -= 3;
             }
             text.append(gap == 3 ? ", 1" : gap == 4 ? ", 10" : ", 100").append(";}");
-            PolicyJudge x = loaded(text.toString());
+            PolicyJudge x = CHECK.loaded(text.toString());
             CHECK.due("printed", x.print(0), 6000 + more);
             if (more > 0) {
                 CHECK.dueThrow("6001", STATE, x::again);
