@@ -305,8 +305,8 @@ public final class CallEdgesTest {
 
     // "1 its way (..; NONE of a rule), 2 the set around it (NONE), 3 how many children, 4 how many duties of its own, 5 .."
     private static void nodeOfEachSort() {
-        PolicyJudge x = CHECK.loaded("set s elsepermit{permit with 1" + Check.times(96, ",1") + ";set t one for true{duty deny 1;duty permit 1;"
-            + "deny for true with 2;}set u first{}}");
+        PolicyJudge x = CHECK.loaded("set s elsepermit{permit with 1" + Check.times(96, ",1")
+            + ";set t one for true{duty deny 1;duty permit 1;deny for true with 2;}set u first{}}");
         int[][] due = { { 2, 5, -1, 3, 0, 0 }, { 0, -1, 0, 0, 97, 0 }, { 2, 3, 0, 1, 2, 1 }, { 1, -1, 2, 0, 1, 1 }, { 2, 2, 0, 0, 0, 0 } };
         for (int i = 0; i < 5; i++) {
             for (int what = 0; what < 6; what++) {
@@ -346,7 +346,8 @@ public final class CallEdgesTest {
     private static void attributeFromFirstToLast() {
         StringBuilder eight = new StringBuilder();
         for (int i = 0; i < 8; i++) {
-            eight.append("attr a").append(i).append(' ').append(i + 1).append(i % 2 > 0 ? " many" : "").append(i > 3 ? " must" : "").append(";");
+            eight.append("attr a").append(i).append(' ').append(i + 1);
+            eight.append(i % 2 > 0 ? " many" : "").append(i > 3 ? " must" : "").append(";");
         }
         PolicyJudge x = CHECK.both(eight + EMPTY, "attr a 1;" + EMPTY);
         for (int i = 0; i < 8; i++) {
@@ -360,7 +361,8 @@ public final class CallEdgesTest {
         CHECK.dueRange("attribute's what", 0, 3, Check.INDEX, what -> x.attribute(0, 7, what));
         CHECK.dueRange("attribute's text", 0, 1, Check.INDEX, text -> x.attribute(text, 0, 0));
         PolicyJudge none = CHECK.loaded(EMPTY);
-        CHECK.dueThrows("no attributes", Check.INDEX, () -> none.attribute(0, 0, 0), () -> none.attribute(1, 0, 0), () -> none.bag(0, 0, 0));
+        CHECK.dueThrows("no attributes", Check.INDEX, () -> none.attribute(0, 0, 0), () -> none.attribute(1, 0, 0),
+            () -> none.bag(0, 0, 0));
     }
 
     // Promise 10, and "any of many": all masks of SIZE bits, and none beyond.
@@ -446,7 +448,8 @@ public final class CallEdgesTest {
     // Promises 12 and 13: "there is no such node, or nothing was decided", from the first node to the last of a hundred.
     private static void decidedBeforeAndBehind() {
         PolicyJudge x = CHECK.both("set s first{" + Check.times(98, "permit for false;") + "deny for error;}", EMPTY);
-        CHECK.dueThrows("nothing was decided", Check.INDEX, () -> x.decided(0, 0), () -> x.truth(0, 0), () -> x.decided(0, 99), () -> x.truth(0, 99));
+        CHECK.dueThrows("nothing was decided", Check.INDEX, () -> x.decided(0, 0), () -> x.truth(0, 0),
+            () -> x.decided(0, 99), () -> x.truth(0, 99));
         x.decide(0);
         CHECK.due("the last", x.decided(0, 99), 4);
         CHECK.due("the last one's truth", x.truth(0, 99), 2);

@@ -105,8 +105,9 @@ public final class CompareEdgesTest {
         String attributes = "attr a 2 many;attr b 3;";
         for (int first = 0; first < 16; first++) {
             for (int second = first; second < 16; second++) {
-                String rule = "set s first{permit for " + exactly(requests.get(second)) + ";permit for " + exactly(requests.get(first)) + ";}";
-                PolicyJudge x = CHECK.both(attributes + rule, "attr b 3;attr a 2 many;" + EMPTY);
+                String set = "set s first{permit for " + exactly(requests.get(second)) + ";"
+                    + "permit for " + exactly(requests.get(first)) + ";}";
+                PolicyJudge x = CHECK.both(attributes + set, "attr b 3;attr a 2 many;" + EMPTY);
                 CHECK.due("reach", x.reach(0, 0, 1), 1);
                 CHECK.due("a in request " + first, x.witness(0), requests.get(first)[0]);
                 CHECK.due("b in request " + first, x.witness(1), requests.get(first)[1]);
@@ -120,11 +121,11 @@ public final class CompareEdgesTest {
     }
 
     private static String exactly(int[] request) {
-        return "a=" + Integer.bitCount(request[0]) + having("a", request[0]) + " and b=" + Integer.bitCount(request[1]) + having("b", request[1]);
+        return having("a", request[0]) + " and " + having("b", request[1]);
     }
 
     private static String having(String name, int mask) {
-        StringBuilder all = new StringBuilder();
+        StringBuilder all = new StringBuilder(name + "=" + Integer.bitCount(mask));
         for (int value = 0; value < 3; value++) {
             all.append((mask >> value & 1) != 0 ? " and " + name + " has " + value : "");
         }
@@ -222,22 +223,27 @@ public final class CompareEdgesTest {
         same("set s first{deny for error;}", "set s first for error{deny;}", 1);
     }
 
-    // "(Bags and what was decided stay ..)"
+    // "(Bags and what was decided stay ..)": also that nothing was.
     private static void sameKeepsBagsAndDecisions() {
         String text = "attr a 2 many;set s first{permit for a has 1 with 5;}";
-        PolicyJudge x = CHECK.both(text, "attr a 2 many;set s first{deny for a has 0 with 6;}");
-        x.bag(0, 0, 2);
-        x.bag(1, 0, 1);
-        x.decide(0);
-        for (int turn = 0; turn < 3; turn++) {
-            CHECK.due("call", turn == 0 ? x.same() : turn == 1 ? x.reach(0, 0, 1) : x.reach(1, 0, 5), turn % 2);
-            CHECK.due("bag of text 0", x.attribute(0, 0, 3), 2);
-            CHECK.due("bag of text 1", x.attribute(1, 0, 3), 1);
-            CHECK.due("decided", x.decided(0, 0), 1);
-            CHECK.due("truth", x.truth(0, 1), 1);
-            CHECK.due("duty", x.duty(0, 0), 5);
-            CHECK.dueThrow("text 1 has decided nothing", Check.INDEX, () -> x.decided(1, 0));
-            CHECK.dueThrow("text 1 has no duties", Check.INDEX, () -> x.duty(1, -1));
+        for (int judged = 0; judged < 2; judged++) {
+            PolicyJudge x = CHECK.both(text, "attr a 2 many;set s first{permit for a has 1 and a=1 with 5;}");
+            int decided = judged;
+            int other = 1 - judged;
+            x.bag(decided, 0, 2);
+            x.bag(other, 0, 1);
+            x.decide(decided);
+            for (int turn = 0; turn < 4; turn++) {
+                int answer = turn == 0 ? x.same() : turn == 1 ? x.reach(decided, 0, 1) : x.reach(other, 0, turn - 1);
+                CHECK.due("call " + turn, answer, turn == 0 || turn == 3 ? 0 : 1);
+                CHECK.due("a bag", x.attribute(decided, 0, 3), 2);
+                CHECK.due("the other's bag", x.attribute(other, 0, 3), 1);
+                CHECK.due("decided", x.decided(decided, 0), 1);
+                CHECK.due("truth", x.truth(decided, 1), 1);
+                CHECK.due("duty", x.duty(decided, 0), 5);
+                CHECK.dueThrows("the other has decided nothing", Check.INDEX, () -> x.decided(other, 0),
+                    () -> x.truth(other, 0), () -> x.duty(other, -1));
+            }
         }
     }
 
@@ -320,8 +326,8 @@ public final class CompareEdgesTest {
     // "the first REQUEST (in the order of its own attributes) for which a node of a text decides so: 1; 0: there is none
     // (no WITNESS any more)"
     private static void reachFirstAndLast() {
-        String attributes = "attr b 4 many;attr a 8 many;";
-        PolicyJudge x = CHECK.both("attr a 8 many;attr b 4 many;" + EMPTY, attributes + "set s first{deny for a>7 and b>3;permit for a has 0;}");
+        PolicyJudge x = CHECK.both("attr a 8 many;attr b 4 many;" + EMPTY,
+            "attr b 4 many;attr a 8 many;set s first{deny for a>7 and b>3;permit for a has 0;}");
         CHECK.due("the first", x.reach(1, 0, 0), 1);
         CHECK.due("b", x.witness(0), 0);
         CHECK.due("a", x.witness(1), 0);

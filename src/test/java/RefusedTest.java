@@ -76,9 +76,13 @@ public final class RefusedTest {
         Check.tape(x, "set s one{permit;}");
     }
 
+    private static String deep(int rules, int duties) {
+        return Check.times(20, "set s one{") + Check.times(rules, "deny;") + Check.times(duties, "duty deny 1;") + Check.times(20, "}");
+    }
+
     // Printed by sets in sets, so that few calls bring nearly 6000 bytes on the tape.
     private static void bringMisfitAndFullTape(PolicyJudge x) {
-        Check.load(x, 0, Check.times(20, "set s one{") + Check.times(70, "deny;") + Check.times(30, "duty deny 1;") + Check.times(20, "}"));
+        Check.load(x, 0, deep(70, 30));
         Check.load(x, 1, OTHER);
         x.reach(1, 0, 0);
         x.print(0);
@@ -99,7 +103,7 @@ public final class RefusedTest {
     }
 
     private static void bringMuchPrinted(PolicyJudge x) {
-        Check.load(x, 0, Check.times(20, "set s one{") + Check.times(80, "deny;") + Check.times(100, "duty deny 1;") + Check.times(20, "}"));
+        Check.load(x, 0, deep(80, 100));
         x.print(0);
         Check.load(x, 0, FIRST);
         Check.tape(x, OTHER);
@@ -132,11 +136,13 @@ public final class RefusedTest {
     private void tryCall(int state, String due, int which, int a, int b, int c, int d) {
         PolicyJudge x = broughtTo(state);
         String answer = Calls.answer(x, which, a, b, c, d);
+        String name = Calls.NAMES[which];
         boolean thrown = answer.endsWith("Exception");
-        boolean kept = (Calls.NAMES[which].equals("same") || Calls.NAMES[which].equals("reach")) && (answer.equals("-2") || answer.equals("-3"));
-        if (thrown || kept || ASKING.contains(Calls.NAMES[which])) {
+        boolean compares = name.equals("same") || name.equals("reach");
+        boolean undone = compares && (answer.equals("-2") || answer.equals("-3"));
+        if (thrown || undone || ASKING.contains(name)) {
             refused++;
-            String call = Calls.NAMES[which] + "(" + a + ", " + b + ", " + c + ", " + d + ") in state " + state;
+            String call = name + "(" + a + ", " + b + ", " + c + ", " + d + ") in state " + state;
             CHECK.due("all behind " + call + ", which answered " + answer, allAnswers(x), due);
         }
     }

@@ -397,7 +397,7 @@ public final class TextEdgesTest {
         for (String bad : new String[] { "^", "has^", "has ^{1}", "has ^b", "has 1^,2", "has ^<", "in^", "in ^1", "in{^}",
             "in{^,1}", "in{1,^}", "in{1 ^2}", "in{1,^,2}", "in{1^;2}", "in{1^", "in ^b", "in{^b}", "only{^}", "only ^1", "<^",
             "<^b", "<^=1", "<^{1}", "=^=1", ">^", "meets^", "meets ^1", "meets ^{1}", "is^", "is ^b", "is ^not 1", "none ^1",
-            "none ^none", "^not none", "^b", "^1", "^or b none", "^(1)" }) {
+            "none ^none", "^not none", "^b", "^1", "^or b none", "^(1)", "^has1", "^is1", "^none1", "^in1", "meets ^", "^nones" }) {
             faultAt(head + bad + (bad.endsWith("^") ? "" : "{}"), 2);
         }
     }
