@@ -73,7 +73,8 @@ public final class PolicyJudge {
 
     public int load(int text) throws IndexOutOfBoundsException {
         checkText(text);
-        reader.read();
+        reader.begin();
+        reader.readPolicy();
         if (reader.kind != 0) {
             return -1 - reader.place;
         }
@@ -298,61 +299,14 @@ public final class PolicyJudge {
 
         static final int NAME = 128, NUMBER = 129, END = 130, BAD = 131;
 
-        static String spelling(int word) {
-            switch (word) {
-                case ATTR: return "attr";
-                case MANY: return "many";
-                case MUST: return "must";
-                case SET: return "set";
-                case FOR: return "for";
-                case PERMIT: return "permit";
-                case DENY: return "deny";
-                case WITH: return "with";
-                case DUTY: return "duty";
-                case OR: return "or";
-                case AND: return "and";
-                case NOT: return "not";
-                case TRUE: return "true";
-                case FALSE: return "false";
-                case ERROR: return "error";
-                case HAS: return "has";
-                case IN: return "in";
-                case ONLY: return "only";
-                case MEETS: return "meets";
-                case IS: return "is";
-                case NONE: return "none";
-                case DENIES: return "denies";
-                case PERMITS: return "permits";
-                case FIRST: return "first";
-                case ONE: return "one";
-                case ELSE_DENY: return "elsedeny";
-                case ELSE_PERMIT: return "elsepermit";
-                case LESS: return "<";
-                case EQUAL: return "=";
-                case MORE: return ">";
-                default: return "";
-            }
-        }
-
-        static int of(int[] bytes, int from, int length) {
-            for (int word = 1; word <= LAST; word++) {
-                if (isSpelled(spelling(word), bytes, from, length)) {
-                    return word;
-                }
-            }
-            return NAME;
-        }
-
-        private static boolean isSpelled(String spelling, int[] bytes, int from, int length) {
-            if (spelling.length() != length) {
-                return false;
-            }
-            for (int k = 0; k < length; k++) {
-                if (spelling.charAt(k) != bytes[from + k]) {
-                    return false;
-                }
-            }
-            return true;
+        // Rows of letters: every word of every text is looked for in them, and no text is made for it.
+        static Names spellings() {
+            Names words = new Names(LAST + 1);
+            words.spell(ATTR, "attr many must set for permit deny with duty");
+            words.spell(OR, "or and not true false error");
+            words.spell(HAS, "has in only meets is none");
+            words.spell(DENIES, "denies permits first one elsedeny elsepermit");
+            return words;
         }
     }
 
@@ -366,6 +320,8 @@ public final class PolicyJudge {
         // Of a NUMBER the number, of a word how many bytes it has.
         final int[] values = new int[TAPE_MOST + 1];
         int tokens;
+
+        private final Names words = Word.spellings();
 
         void append(int fourBytes) {
             for (int shift = 24; shift >= 0 && length < TAPE_MOST; shift -= 8) {
@@ -398,7 +354,7 @@ public final class PolicyJudge {
             }
             int width = runLength(at);
             if (isLetter(first)) {
-                addToken(width > NAME_MOST ? Word.BAD : Word.of(bytes, at, width), at, width);
+                addToken(width > NAME_MOST ? Word.BAD : wordAt(at, width), at, width);
             } else if (isDigit(first)) {
                 int number = numberAt(at, width);
                 addToken(number == NONE ? Word.BAD : Word.NUMBER, at, number);
@@ -423,6 +379,11 @@ public final class PolicyJudge {
                 end++;
             }
             return end - at;
+        }
+
+        private int wordAt(int at, int width) {
+            int word = words.find(Word.LAST + 1, bytes, at, width);
+            return word == NONE ? Word.NAME : word;
         }
 
         private int numberAt(int at, int width) {
@@ -476,24 +437,38 @@ public final class PolicyJudge {
             }
         }
 
+        // Words with a blank between two, numbered from the first one's number on.
+        void spell(int first, String all) {
+            int i = Math.max(0, first);
+            for (int k = 0; k < all.length() && i < lengths.length; k++) {
+                if (all.charAt(k) == ' ') {
+                    i++;
+                } else if (lengths[i] < NAME_MOST) {
+                    letters[i * NAME_MOST + lengths[i]] = all.charAt(k);
+                    lengths[i]++;
+                }
+            }
+        }
+
         int letter(int i, int k) {
             return letters[i * NAME_MOST + k];
         }
 
-        boolean isSpelled(int i, int[] bytes, int from, int length) {
-            if (lengths[i] != length) {
-                return false;
-            }
-            for (int k = 0; k < length; k++) {
-                if (letter(i, k) != bytes[from + k]) {
-                    return false;
+        int find(int count, int[] bytes, int from, int length) {
+            for (int i = 0; i < count; i++) {
+                int alike = 0;
+                while (alike < length && alike < lengths[i] && letters[i * NAME_MOST + alike] == bytes[from + alike]) {
+                    alike++;
+                }
+                if (alike == length && alike == lengths[i]) {
+                    return i;
                 }
             }
-            return true;
+            return NONE;
         }
 
-        boolean isLike(int i, Names others, int other) {
-            return isSpelled(i, others.letters, other * NAME_MOST, others.lengths[other]);
+        int findLike(int count, Names others, int other) {
+            return find(count, others.letters, other * NAME_MOST, others.lengths[other]);
         }
     }
 
@@ -523,15 +498,6 @@ public final class PolicyJudge {
             int next = many[i] || mask == 0 ? mask + 1 : mask << 1;
             return next < 1 << size[i] ? next : 0;
         }
-
-        int find(Names others, int other) {
-            for (int i = 0; i < count; i++) {
-                if (names.isLike(i, others, other)) {
-                    return i;
-                }
-            }
-            return NONE;
-        }
     }
 
     /** Sets and rules in the order in which they begin, with their duties in the order in which they were told. */
@@ -554,7 +520,7 @@ public final class PolicyJudge {
         final int[] dutyOwner = new int[DUTIES_MOST];
         final int[] dutyDecision = new int[DUTIES_MOST];
 
-        void add(int sortOfIt, int setAround) {
+        void addTo(int setAround, int sortOfIt) {
             int i = count;
             count++;
             sort[i] = sortOfIt;
@@ -644,7 +610,8 @@ public final class PolicyJudge {
         private int openSet;
         private int openSets;
 
-        void read() {
+        // Reads what stands before the policy.
+        void begin() {
             tape.cutIntoTokens();
             tape.length = 0;
             kind = 0;
@@ -654,20 +621,40 @@ public final class PolicyJudge {
             openSets = 0;
             fresh.clear();
             readAttributes();
+        }
+
+        void readPolicy() {
             if (isFine()) {
                 readSetHead();
             }
             for (int left = tape.tokens; left > 0 && isFine() && openSet != NONE; left--) {
-                readMember();
+                switch (token()) {
+                    case Word.SET:
+                        readSetHead();
+                        break;
+                    case Word.PERMIT:
+                    case Word.DENY:
+                        readRule();
+                        break;
+                    case Word.DUTY:
+                        readDuty();
+                        break;
+                    case Word.CLOSE_CURLY:
+                        readSetEnd();
+                        break;
+                    default:
+                        refuse(MISPLACED);
+                        break;
+                }
             }
             if (isFine() && token() != Word.END) {
                 refuse(MISPLACED);
             }
-            fresh.present = isFine();
         }
 
         Text exchange(Text old) {
             Text full = fresh;
+            full.present = true;
             fresh = old;
             return full;
         }
@@ -732,7 +719,7 @@ public final class PolicyJudge {
                 refuse(MISPLACED);
                 return;
             }
-            if (attributeHere() != NONE) {
+            if (attributes.names.find(i, tape.bytes, tape.places[at], tokenValue()) != NONE) {
                 refuse(BAD_NAME);
                 return;
             }
@@ -753,39 +740,6 @@ public final class PolicyJudge {
             attributes.bag[i] = 0;
             attributes.count++;
             require(Word.SEMICOLON);
-        }
-
-        private int attributeHere() {
-            Attributes attributes = fresh.attributes;
-            for (int i = 0; i < attributes.count; i++) {
-                if (attributes.names.isSpelled(i, tape.bytes, tape.places[at], tokenValue())) {
-                    return i;
-                }
-            }
-            return NONE;
-        }
-
-        private void readMember() {
-            switch (token()) {
-                case Word.SET:
-                    readSetHead();
-                    break;
-                case Word.PERMIT:
-                case Word.DENY:
-                    readRule();
-                    break;
-                case Word.DUTY:
-                    readDuty();
-                    break;
-                case Word.CLOSE_CURLY:
-                    step();
-                    openSet = fresh.nodes.around[openSet];
-                    openSets--;
-                    break;
-                default:
-                    refuse(MISPLACED);
-                    break;
-            }
         }
 
         private void readSetHead() {
@@ -816,6 +770,12 @@ public final class PolicyJudge {
             if (isFine()) {
                 openCurly(set);
             }
+        }
+
+        private void readSetEnd() {
+            step();
+            openSet = fresh.nodes.around[openSet];
+            openSets--;
         }
 
         private void openCurly(int set) {
@@ -891,7 +851,7 @@ public final class PolicyJudge {
                 refuse(TOO_MUCH);
                 return NONE;
             }
-            nodes.add(sort, openSet);
+            nodes.addTo(openSet, sort);
             return nodes.count - 1;
         }
 
@@ -991,11 +951,7 @@ public final class PolicyJudge {
 
         private int readTest() {
             int attribute = attributeHere();
-            if (attribute == NONE) {
-                refuse(BAD_NAME);
-                return NONE;
-            }
-            int test = addPart(Word.NAME);
+            int test = attribute == NONE ? NONE : addPart(Word.NAME);
             if (test == NONE) {
                 return NONE;
             }
@@ -1018,7 +974,9 @@ public final class PolicyJudge {
                     parts.number[test] = readNumber(NUMBERS);
                     break;
                 case Word.MEETS:
-                    parts.number[test] = readOther();
+                    step();
+                    parts.number[test] = attributeHere();
+                    step();
                     break;
                 case Word.NONE:
                     step();
@@ -1043,20 +1001,18 @@ public final class PolicyJudge {
             return number;
         }
 
-        private int readOther() {
-            step();
-            int other = NONE;
+        // Does not step on: a part that is one too many is refused at its name.
+        private int attributeHere() {
+            int found = NONE;
             if (token() != Word.NAME) {
                 refuse(MISPLACED);
             } else {
-                other = attributeHere();
-                if (other == NONE) {
+                found = fresh.attributes.names.find(fresh.attributes.count, tape.bytes, tape.places[at], tokenValue());
+                if (found == NONE) {
                     refuse(BAD_NAME);
-                } else {
-                    step();
                 }
             }
-            return other;
+            return found;
         }
 
         // No value comes twice, so the rounds are no more than the values.
@@ -1084,7 +1040,10 @@ public final class PolicyJudge {
                     break;
                 }
             }
-            require(Word.CLOSE_CURLY);
+            if (token() != Word.CLOSE_CURLY) {
+                refuse(MISPLACED);
+            }
+            step();
             return mask;
         }
     }
@@ -1326,7 +1285,7 @@ public final class PolicyJudge {
                 return false;
             }
             for (int i = 0; i < others.count; i++) {
-                int found = mine.find(others.names, i);
+                int found = mine.names.findLike(mine.count, others.names, i);
                 if (found == NONE || mine.size[found] != others.size[i]
                     || mine.many[found] != others.many[i] || mine.must[found] != others.must[i]) {
                     return false;
@@ -1399,6 +1358,7 @@ public final class PolicyJudge {
         final int[] bytes = new int[PRINTED_MOST];
         int length;
 
+        private final Names words = Word.spellings();
         private int openSet;
         private int openSets;
 
@@ -1428,20 +1388,29 @@ public final class PolicyJudge {
             }
         }
 
-        private void putText(String text) {
-            for (int k = 0; k < text.length(); k++) {
-                put(text.charAt(k));
-            }
-        }
-
-        private void putWord(int word) {
-            putText(Word.spelling(word));
-        }
-
         private void putName(Names names, int i) {
             for (int k = 0; k < names.lengths[i]; k++) {
                 put(names.letter(i, k));
             }
+        }
+
+        private void putToken(int token) {
+            if (token <= Word.LAST) {
+                putName(words, token);
+            } else {
+                put(token);
+            }
+        }
+
+        private void putBetweenBlanks(int word) {
+            put(' ');
+            putToken(word);
+            put(' ');
+        }
+
+        private void endLine(int sign) {
+            put(sign);
+            put('\n');
         }
 
         private void putNumber(int number) {
@@ -1456,7 +1425,8 @@ public final class PolicyJudge {
 
         private void indent() {
             for (int i = 0; i < openSets; i++) {
-                putText("  ");
+                put(' ');
+                put(' ');
             }
         }
 
@@ -1465,39 +1435,40 @@ public final class PolicyJudge {
                 openSets--;
                 openSet = nodes.around[openSet];
                 indent();
-                putText("}\n");
+                endLine('}');
             }
         }
 
         private void writeAttribute(Attributes attributes, int i) {
-            putWord(Word.ATTR);
+            putToken(Word.ATTR);
             put(' ');
             putName(attributes.names, i);
             put(' ');
             putNumber(attributes.size[i]);
             if (attributes.many[i]) {
                 put(' ');
-                putWord(Word.MANY);
+                putToken(Word.MANY);
             }
             if (attributes.must[i]) {
                 put(' ');
-                putWord(Word.MUST);
+                putToken(Word.MUST);
             }
-            putText(";\n");
+            endLine(';');
         }
 
         private void writeSetHead(Text text, int set) {
             Nodes nodes = text.nodes;
-            putWord(Word.SET);
+            putToken(Word.SET);
             put(' ');
             putName(nodes.names, set);
             put(' ');
-            putWord(Word.DENIES + nodes.way[set]);
+            putToken(Word.DENIES + nodes.way[set]);
             if (nodes.expression[set] != NONE) {
-                putText(" for ");
+                putBetweenBlanks(Word.FOR);
                 writeExpression(text, nodes.expression[set], 0);
             }
-            putText(" {\n");
+            put(' ');
+            endLine('{');
             openSet = set;
             openSets++;
             for (int d = 0; d < nodes.duties; d++) {
@@ -1509,34 +1480,39 @@ public final class PolicyJudge {
 
         private void writeDuty(Nodes nodes, int d) {
             indent();
-            putWord(Word.DUTY);
+            putToken(Word.DUTY);
             put(' ');
-            putWord(nodes.dutyDecision[d] == PERMIT ? Word.PERMIT : Word.DENY);
+            putToken(nodes.dutyDecision[d] == PERMIT ? Word.PERMIT : Word.DENY);
             put(' ');
             putNumber(nodes.dutyNumber[d]);
-            putText(";\n");
+            endLine(';');
         }
 
         private void writeRule(Text text, int rule) {
             Nodes nodes = text.nodes;
-            putWord(nodes.sort[rule] == PERMIT_RULE ? Word.PERMIT : Word.DENY);
+            putToken(nodes.sort[rule] == PERMIT_RULE ? Word.PERMIT : Word.DENY);
             if (nodes.names.lengths[rule] > 0) {
                 put(' ');
                 putName(nodes.names, rule);
             }
             if (nodes.expression[rule] != NONE) {
-                putText(" for ");
+                putBetweenBlanks(Word.FOR);
                 writeExpression(text, nodes.expression[rule], 0);
             }
             writeRuleDuties(nodes, rule);
-            putText(";\n");
+            endLine(';');
         }
 
         private void writeRuleDuties(Nodes nodes, int rule) {
             boolean begun = false;
             for (int d = 0; d < nodes.duties; d++) {
                 if (nodes.dutyOwner[d] == rule) {
-                    putText(begun ? ", " : " with ");
+                    if (begun) {
+                        put(',');
+                        put(' ');
+                    } else {
+                        putBetweenBlanks(Word.WITH);
+                    }
                     putNumber(nodes.dutyNumber[d]);
                     begun = true;
                 }
@@ -1552,10 +1528,11 @@ public final class PolicyJudge {
                 case Word.TRUE:
                 case Word.FALSE:
                 case Word.ERROR:
-                    putWord(parts.kind[part]);
+                    putToken(parts.kind[part]);
                     break;
                 case Word.NOT:
-                    putText("not ");
+                    putToken(Word.NOT);
+                    put(' ');
                     writeJoined(text, part, parts.first[part], level);
                     break;
                 case Word.OR:
@@ -1573,7 +1550,9 @@ public final class PolicyJudge {
             int part = parts.first[joint];
             for (int i = 0; i < parts.joined[joint] && part != NONE; i++) {
                 if (i > 0) {
-                    putText(parts.kind[joint] == Word.OR ? " or " : " and ");
+                    put(' ');
+                    putToken(parts.kind[joint]);
+                    put(' ');
                 }
                 writeJoined(text, joint, part, level);
                 part = parts.next[part];
@@ -1601,7 +1580,7 @@ public final class PolicyJudge {
             Parts parts = text.parts;
             putName(text.attributes.names, parts.attribute[test]);
             put(' ');
-            putWord(parts.kind[test]);
+            putToken(parts.kind[test]);
             switch (parts.kind[test]) {
                 case Word.NONE:
                     break;
@@ -1627,7 +1606,8 @@ public final class PolicyJudge {
             for (int value = 0; value < SIZE_MOST; value++) {
                 if ((mask >> value & 1) != 0) {
                     if (begun) {
-                        putText(", ");
+                        put(',');
+                        put(' ');
                     }
                     putNumber(value);
                     begun = true;
